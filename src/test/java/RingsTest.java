@@ -16,6 +16,7 @@ public final class RingsTest {
         test.statesAreCountedOnce();
         test.soonestIsTheLeastSum();
         test.dropTakesRingsAway();
+        test.eachQuestionStandsAlone();
         test.check.end();
     }
 
@@ -106,5 +107,25 @@ public final class RingsTest {
         check.due("give", x.give(1, 2), 3);
         check.due("the first request again", x.take(1, 0), 4);
         due("with its request later", x, 1, 1, 1, 4);
+    }
+
+    /** Asked first after a change, an answer must not be the one from before it. */
+    private void eachQuestionStandsAlone() {
+        check.due("first asked: rings()", Rows.of("+0 +1", "+1 +0").rings(), 1);
+        check.due("first asked: ringsMet()", Rows.of("+0 +1", "+1 +0").ringsMet(), 1);
+        check.due("first asked: statesMet()", Rows.of("+0 +1", "+1 +0").statesMet(), 1);
+        check.due("first asked: soonest()", Rows.of("+0 +1", "+1 +0").soonest(), 2);
+        LockOrders x = Rows.of("+0 +1", "+1 +0");
+        check.due("ringsMet() before drop", x.ringsMet(), 1);
+        x.drop(1);
+        check.due("ringsMet() after drop", x.ringsMet(), 0);
+        x.take(1, 0);
+        check.due("statesMet() after take", x.statesMet(), 1);
+        x.drop(0);
+        check.due("statesMet() after drop", x.statesMet(), 0);
+        x.take(0, 1);
+        check.due("soonest() after take", x.soonest(), 2);
+        x.drop(0);
+        check.due("soonest() after drop", x.soonest(), NONE);
     }
 }

@@ -18,6 +18,7 @@ public final class StatesTest {
         reachedRefuses(check);
         countsWays(check);
         waysAreARemainder(check);
+        aRemainderOfNoneIsNoSignOfNoWay(check);
         check.end();
     }
 
@@ -141,6 +142,14 @@ public final class StatesTest {
         check.due("ways of three rows apart",
                 Rows.of(FOUR_APART[0], FOUR_APART[1], FOUR_APART[2]).ways(), (int) (three % 1000003L));
         check.due("ways of four rows apart", Rows.of(FOUR_APART).ways(), (int) (four % 1000003L));
+    }
+
+    /** These rows have many ways, but 1000003 divides their number. */
+    private static void aRemainderOfNoneIsNoSignOfNoWay(Check check) {
+        LockOrders x = Rows.of("+2 -2 +2 +1 -1 -2", "+1 +0 -0 +0 -0 -1", "+0 -0 +4 +1 -4 -1", "+0 +4 +3 -3 -4 -0");
+        check.due("remainder 0: ways", x.ways(), 0);
+        check.due("remainder 0: canFinish", x.canFinish(), 1);
+        check.due("remainder 0: reached", x.reached(6, 6, 6, 6), 1);
     }
 
     /** In how many ways six are chosen out of n. */
